@@ -1,0 +1,62 @@
+import java.lang.reflect.Constructor;
+import java.lang.reflect.Field;
+import java.lang.reflect.Method;
+import java.lang.reflect.Modifier;
+import java.util.Arrays;
+import java.util.Set;
+import java.util.TreeSet;
+
+/** The class has the document's face and shows nothing else. */
+final class FaceTest {
+    private static final Set<String> METHODS = new TreeSet<>(Arrays.asList(
+            "public long FloatUnit.put(int,long)",
+            "public long FloatUnit.bits(int)",
+            "public int FloatUnit.mode(int)",
+            "public int FloatUnit.flags(int)",
+            "public long FloatUnit.work(int,boolean,int,int,int)",
+            "public int FloatUnit.compare(boolean,int,int,int)",
+            "public long FloatUnit.of(boolean,int,long)",
+            "public long FloatUnit.whole(boolean,int,boolean)",
+            "public long FloatUnit.turn(boolean,int,int)",
+            "public int FloatUnit.kind(boolean,int)",
+            "public long FloatUnit.negate(boolean,int,int)"));
+
+    private static final Set<String> CONSTANTS = new TreeSet<>(Arrays.asList(
+            "ADD 0", "SUBTRACT 1", "MULTIPLY 2", "DIVIDE 3", "REST 4"));
+
+    public static void main(String[] args) throws IllegalAccessException {
+        Checks checks = new Checks("FaceTest");
+        int modifiers = FloatUnit.class.getModifiers();
+        checks.holds("the class is public and final",
+                Modifier.isPublic(modifiers) && Modifier.isFinal(modifiers));
+        checks.holds("methods are " + methods(), methods().equals(METHODS));
+        checks.holds("constants are " + constants(), constants().equals(CONSTANTS));
+        Constructor<?>[] constructors = FloatUnit.class.getDeclaredConstructors();
+        checks.holds("one public constructor without parameters", constructors.length == 1
+                && Modifier.isPublic(constructors[0].getModifiers())
+                && constructors[0].getParameterCount() == 0);
+        checks.finish();
+    }
+
+    /** Without the throws clause, which adds nothing for an unchecked exception. */
+    private static Set<String> methods() {
+        Set<String> shown = new TreeSet<>();
+        for (Method method : FloatUnit.class.getDeclaredMethods()) {
+            if (!Modifier.isPrivate(method.getModifiers()) && !method.isSynthetic()) {
+                shown.add(method.toString().replaceAll(" throws .*", ""));
+            }
+        }
+        return shown;
+    }
+
+    private static Set<String> constants() throws IllegalAccessException {
+        Set<String> shown = new TreeSet<>();
+        for (Field field : FloatUnit.class.getDeclaredFields()) {
+            if (!Modifier.isPrivate(field.getModifiers()) && !field.isSynthetic()) {
+                boolean constant = field.toString().startsWith("public static final int ");
+                shown.add(constant ? field.getName() + " " + field.getInt(null) : field.toString());
+            }
+        }
+        return shown;
+    }
+}
