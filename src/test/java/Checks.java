@@ -33,9 +33,9 @@ final class Checks {
         }
     }
 
-    void holds(String what, boolean true_) {
+    void holds(String what, boolean held) {
         asked++;
-        if (!true_) {
+        if (!held) {
             report(what);
         }
     }

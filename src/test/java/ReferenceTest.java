@@ -98,7 +98,7 @@ final class ReferenceTest {
                 + " 0x" + Long.toHexString(x) + " 0x" + Long.toHexString(y);
     }
 
-    /** The answer, the register and the flags, and that the operands are left alone. */
+    /** The answer, the register that it went to, and the flags. */
     private static void settle(String text, FloatUnit unit, long got, long want, int wantFlags) {
         CHECKS.due(text, got, want);
         CHECKS.due(text + ": its register", unit.bits(5), want);
