@@ -6,7 +6,7 @@ import java.util.Arrays;
 import java.util.Set;
 import java.util.TreeSet;
 
-/** The class has the document's face and shows nothing else. */
+/** The class has the document's face and shows nothing else (rules 1 and 5 of LANGUAGE.md, too). */
 final class FaceTest {
     private static final Set<String> METHODS = new TreeSet<>(Arrays.asList(
             "public long FloatUnit.put(int,long)",
@@ -35,6 +35,10 @@ final class FaceTest {
         checks.holds("one public constructor without parameters", constructors.length == 1
                 && Modifier.isPublic(constructors[0].getModifiers())
                 && constructors[0].getParameterCount() == 0);
+        checks.holds("a private method has the name of a public one", privateNames().stream()
+                .noneMatch(name -> METHODS.stream().anyMatch(shown -> shown.contains("." + name + "("))));
+        checks.holds("classes inside are static and not public", classesInsideAreHidden());
+        checks.holds("static fields are final", staticFieldsAreFinal());
         checks.finish();
     }
 
@@ -47,6 +51,36 @@ final class FaceTest {
             }
         }
         return shown;
+    }
+
+    private static Set<String> privateNames() {
+        Set<String> names = new TreeSet<>();
+        for (Method method : FloatUnit.class.getDeclaredMethods()) {
+            if (Modifier.isPrivate(method.getModifiers())) {
+                names.add(method.getName());
+            }
+        }
+        return names;
+    }
+
+    private static boolean classesInsideAreHidden() {
+        for (Class<?> inside : FloatUnit.class.getDeclaredClasses()) {
+            int modifiers = inside.getModifiers();
+            if (!Modifier.isStatic(modifiers) || Modifier.isPublic(modifiers)
+                    || Modifier.isProtected(modifiers)) {
+                return false;
+            }
+        }
+        return true;
+    }
+
+    private static boolean staticFieldsAreFinal() {
+        for (Field field : FloatUnit.class.getDeclaredFields()) {
+            if (Modifier.isStatic(field.getModifiers()) && !Modifier.isFinal(field.getModifiers())) {
+                return false;
+            }
+        }
+        return true;
     }
 
     private static Set<String> constants() throws IllegalAccessException {
