@@ -8,18 +8,20 @@ import java.util.TreeSet;
 
 /** The class has the document's face and shows nothing else (rules 1 and 5 of LANGUAGE.md, too). */
 final class FaceTest {
+    private static final String REFUSES = " throws java.lang.IllegalArgumentException";
+
     private static final Set<String> METHODS = new TreeSet<>(Arrays.asList(
-            "public long FloatUnit.put(int,long)",
-            "public long FloatUnit.bits(int)",
-            "public int FloatUnit.mode(int)",
+            "public long FloatUnit.put(int,long)" + REFUSES,
+            "public long FloatUnit.bits(int)" + REFUSES,
+            "public int FloatUnit.mode(int)" + REFUSES,
             "public int FloatUnit.flags(int)",
-            "public long FloatUnit.work(int,boolean,int,int,int)",
-            "public int FloatUnit.compare(boolean,int,int,int)",
-            "public long FloatUnit.of(boolean,int,long)",
-            "public long FloatUnit.whole(boolean,int,boolean)",
-            "public long FloatUnit.turn(boolean,int,int)",
-            "public int FloatUnit.kind(boolean,int)",
-            "public long FloatUnit.negate(boolean,int,int)"));
+            "public long FloatUnit.work(int,boolean,int,int,int)" + REFUSES,
+            "public int FloatUnit.compare(boolean,int,int,int)" + REFUSES,
+            "public long FloatUnit.of(boolean,int,long)" + REFUSES,
+            "public long FloatUnit.whole(boolean,int,boolean)" + REFUSES,
+            "public long FloatUnit.turn(boolean,int,int)" + REFUSES,
+            "public int FloatUnit.kind(boolean,int)" + REFUSES,
+            "public long FloatUnit.negate(boolean,int,int)" + REFUSES));
 
     private static final Set<String> CONSTANTS = new TreeSet<>(Arrays.asList(
             "ADD 0", "SUBTRACT 1", "MULTIPLY 2", "DIVIDE 3", "REST 4"));
@@ -42,12 +44,11 @@ final class FaceTest {
         checks.finish();
     }
 
-    /** Without the throws clause, which adds nothing for an unchecked exception. */
     private static Set<String> methods() {
         Set<String> shown = new TreeSet<>();
         for (Method method : FloatUnit.class.getDeclaredMethods()) {
             if (!Modifier.isPrivate(method.getModifiers()) && !method.isSynthetic()) {
-                shown.add(method.toString().replaceAll(" throws .*", ""));
+                shown.add(method.toString());
             }
         }
         return shown;
